@@ -186,7 +186,7 @@ public final class MixedNumbers {
         return from >= 0 && from <= REGISTERS && n >= 0 && n <= REGISTERS - from;
     }
 
-    /** Moves a register down to its place among the sorted ones from {@code from} on before it. */
+    /** Moves a register down to its place among the sorted ones, which begin at from. */
     private void insert(int from, int place) {
         Value moved = registers[place];
         int at = place;
@@ -649,7 +649,8 @@ public final class MixedNumbers {
         private static void remainderOfSizes(Value a, Value b) {
             int gap = a.exponent - b.exponent;
             if (gap >= 0) {
-                a.setNearest(a.number < 0, remainderAbove(a.size(), gap, b.size()), false, b.exponent);
+                long rest = remainderAbove(a.size(), gap, b.size());
+                a.setNearest(a.number < 0, rest, false, b.exponent);
             } else if (-gap < Long.numberOfLeadingZeros(b.size())) {
                 long divisor = b.size() << -gap;
                 if (divisor != 0) {
