@@ -1,696 +1,682 @@
-/** For each promise: ordinary inputs, the edges that the document names, and wrong inputs. */
+import java.util.ArrayList;
+import java.util.List;
+
+/** Promises 1 to 12: a test for each sentence; what the operations make is in OperationsTest. */
 public final class PromisesTest {
-    private static final int WHOLE = 1;
-    private static final int REAL = 2;
-    private static final int PLUS = 3;
-    private static final int MINUS = 4;
-    private static final int NONE = 5;
-    private static final long MIN = Long.MIN_VALUE;
-    private static final long MAX = Long.MAX_VALUE;
-    private static final long P53 = 1L << 53;
-    private static final int[] NO_REGISTERS = {-1, 32, 33, Integer.MIN_VALUE, Integer.MAX_VALUE};
+    private static final int BAD = -1;
+    private static final long MIN = Check.MIN;
+    private static final long MAX = Check.MAX;
+    private static final long P53 = Check.P53;
+    private static final String GREATEST = Check.GREATEST;
+    private static final String LOWEST = Check.LOWEST;
+    private static final String LEAST = Check.LEAST;
+    private static final int LOWEST_INT = Integer.MIN_VALUE;
+    private static final int HIGHEST_INT = Integer.MAX_VALUE;
 
     private static final Check check = new Check();
+
+    private interface RowCall {
+        boolean of(MixedNumbers x, int from, int n);
+    }
 
     public static void main(String[] args) {
         newObject();
         whole();
-        real();
+        realIsTwiceRounded();
+        realRefused();
         special();
-        wholeArithmetic();
-        realArithmetic();
-        infinities();
-        quotient();
-        remainder();
-        power();
-        bits();
-        shifts();
-        ofOneOperand();
-        wrongOperations();
-        compare();
-        readings();
+        operateTo();
+        operateErrors();
+        operateBad();
+        compareSizes();
+        compareNoNumber();
+        compareBad();
+        kind();
+        number();
+        exponent();
         sum();
+        sumRows();
+        sumTo();
         polynomial();
+        polynomialRows();
+        polynomialTo();
         sort();
+        sortRows();
+        manyCalls();
         check.end("PromisesTest");
     }
 
-    // A value in a text: "7" whole, "7r-1" the real 7 * 2^-1, "+inf", "-inf", "none".
-    private static void put(MixedNumbers x, int r, String text) {
-        if (text.equals("+inf")) {
-            check.due("special " + text, x.special(r, PLUS), true);
-        } else if (text.equals("-inf")) {
-            check.due("special " + text, x.special(r, MINUS), true);
-        } else if (text.equals("none")) {
-            check.due("special " + text, x.special(r, NONE), true);
-        } else if (text.indexOf('r') >= 0) {
-            int at = text.indexOf('r');
-            long m = Long.parseLong(text.substring(0, at));
-            int e = Integer.parseInt(text.substring(at + 1));
-            check.due("real " + text, x.real(r, m, e), true);
-        } else {
-            check.due("whole " + text, x.whole(r, Long.parseLong(text)), true);
-        }
-    }
-
-    // Here a real stands with the number and the exponent that are to be answered.
-    private static void has(String call, MixedNumbers x, int r, String text) {
-        if (text.equals("+inf")) {
-            check.value(call, x, r, PLUS, 0, 0);
-        } else if (text.equals("-inf")) {
-            check.value(call, x, r, MINUS, 0, 0);
-        } else if (text.equals("none")) {
-            check.value(call, x, r, NONE, 0, 0);
-        } else if (text.indexOf('r') >= 0) {
-            int at = text.indexOf('r');
-            long m = Long.parseLong(text.substring(0, at));
-            check.value(call, x, r, REAL, m, Integer.parseInt(text.substring(at + 1)));
-        } else {
-            check.value(call, x, r, WHOLE, Long.parseLong(text), 0);
-        }
-    }
-
-    private static void operation(int what, String a, String b, String want) {
-        String call = "operation " + what + " of " + a + " and " + b;
-        MixedNumbers x = new MixedNumbers();
-        put(x, 3, a);
-        put(x, 31, b);
-        check.due(call, x.operate(what, 0, 3, 31), 0);
-        has(call, x, 0, want);
-        // The result may go to the place of an operand.
-        check.due(call, x.operate(what, 31, 3, 31), 0);
-        has(call, x, 31, want);
-    }
-
-    private static void error(int what, String a, String b, int want) {
-        String call = "operation " + what + " of " + a + " and " + b;
-        MixedNumbers x = new MixedNumbers();
-        put(x, 3, a);
-        put(x, 31, b);
-        x.whole(0, 77);
-        check.due(call, x.operate(what, 0, 3, 31), want);
-        has(call + ", the register stays", x, 0, "77");
-    }
-
     private static void newObject() {
+        check.sentence("1: 32 registers, 0 .. 31, all of them with the whole number 0");
         MixedNumbers x = new MixedNumbers();
         for (int r = 0; r < 32; r++) {
-            has("new", x, r, "0");
+            check.has("new", x, r, "0");
         }
-        check.due("BAD", MixedNumbers.BAD, -1);
+        for (int r : Check.noRegisters()) {
+            check.due("kind(" + r + ")", x.kind(r), BAD);
+        }
+        for (int r = 0; r < 32; r++) {
+            x.whole(r, r + 100);
+        }
+        for (int r = 0; r < 32; r++) {
+            check.has("each register is one of its own", x, r, "" + (r + 100));
+            check.has("each object is one of its own", new MixedNumbers(), r, "0");
+        }
+        check.due("BAD", MixedNumbers.BAD, BAD);
     }
 
     private static void whole() {
-        MixedNumbers x = new MixedNumbers();
+        check.sentence("2: A register gets a whole number: true");
         for (long v : new long[] {0, 1, -1, MIN, MAX, P53 + 1}) {
-            check.due("whole", x.whole(0, v), true);
-            has("whole", x, 0, Long.toString(v));
-            check.due("whole", x.whole(31, v), true);
-            has("whole", x, 31, Long.toString(v));
+            for (int r = 0; r < 32; r++) {
+                MixedNumbers x = check.row(0, "9", "5r-1", "+inf", "-inf", "none", "0r0");
+                long[] before = check.all(x);
+                check.due("whole(" + r + ", " + v + ")", x.whole(r, v), true);
+                check.has("whole", x, r, Long.toString(v));
+                check.stays("whole", x, before, r);
+            }
         }
-        for (int r : NO_REGISTERS) {
-            check.due("whole(" + r + ", 1)", x.whole(r, 1), false);
+        check.sentence("2: false when there is no such register");
+        for (int r : Check.noRegisters()) {
+            check.refused("whole(" + r + ", 1)", x -> x.whole(r, 1));
         }
-        x.real(5, 3, -2);
-        x.whole(5, 9);
-        has("whole over a real", x, 5, "9");
     }
 
-    private static void realIs(long m, int e, String want) {
-        MixedNumbers x = new MixedNumbers();
-        String call = "real(0, " + m + ", " + e + ")";
-        check.due(call, x.real(0, m, e), true);
-        has(call, x, 0, want);
+    private static void realIsTwiceRounded() {
+        check.sentence("3: A register gets the nearest of (the nearest of m) * 2^e: true");
+        check.realIs(5, -1, "5r-1");
+        check.realIs(-12, 3, "-3r5");
+        check.realIs(P53 + 1, 0, "1r53");
+        check.realIs(P53 + 3, 0, "2251799813685249r2");
+        check.realIs(-P53 - 3, 0, "-2251799813685249r2");
+        check.realIs(MAX, 0, "1r63");
+        check.realIs(MIN, 0, "-1r63");
+        check.realIs(MIN, -63, "-1r0");
+        check.realIs(MAX, -1200, "0r0");
+        // 2^54 + 1 first loses its 1; then 2^-1075 is a tie, which it would not be with the 1.
+        check.realIs((1L << 54) + 1, -1129, "0r0");
+        check.realIs(-(1L << 54) - 1, -1129, "0r0");
+        check.realIs((1L << 54) + 3, -1129, LEAST);
+        // 3 * 2^54 - 1 first becomes 3 * 2^54; then the tie goes up to the even one.
+        check.realIs((3L << 54) - 1, -1129, "1r-1073");
+        check.realIs((3L << 53) - 1, -1128, "1r-1073");
+        check.realIs((3L << 53) - 4, -1128, LEAST);
+        for (int r = 0; r < 32; r++) {
+            MixedNumbers x = check.row(0, "9", "5r-1", "+inf", "-inf", "none", "0r0");
+            long[] before = check.all(x);
+            check.due("real(" + r + ", 3, -2)", x.real(r, 3, -2), true);
+            check.has("real", x, r, "3r-2");
+            check.stays("real", x, before, r);
+        }
     }
 
-    private static void real() {
-        realIs(5, -1, "5r-1");
-        realIs(-12, 3, "-3r5");
-        realIs(0, 1200, "0r0");
-        realIs(0, -1200, "0r0");
-        // The nearest of m comes first.
-        realIs(P53 + 1, 0, "1r53");
-        realIs(P53 + 3, 0, "2251799813685249r2");
-        realIs(-P53 - 3, 0, "-2251799813685249r2");
-        realIs(MAX, 0, "1r63");
-        realIs(MIN, 0, "-1r63");
-        realIs(MIN, -63, "-1r0");
-        // Twice rounded: 2^54 + 1 first loses its 1, then there is a tie at half of 2^-1074.
-        realIs((1L << 54) + 1, -1129, "0r0");
-        realIs((1L << 54) + 5, -1129, "1r-1074");
-        realIs(1, -1074, "1r-1074");
-        realIs(1, -1075, "0r0");
-        realIs(-1, -1075, "0r0");
-        realIs(3, -1076, "1r-1074");
-        realIs(3, -1075, "1r-1073");
-        realIs(5, -1075, "1r-1073");
-        realIs(P53 - 1, -1075, "1r-1022");
-        realIs(MAX, -1200, "0r0");
-        realIs(MAX, -1137, "1r-1074");
-        realIs(MAX, -1138, "0r0");
-        realIs(P53 - 1, 971, (P53 - 1) + "r971");
-        realIs(P53 - 1, 972, "+inf");
-        realIs(1 - P53, 972, "-inf");
-        realIs(P53, 971, "+inf");
-        realIs(P53, 970, (1L << 52) + "r971");
-        realIs(-1, 1023, "-" + (1L << 52) + "r971");
-        realIs(1, 1024, "+inf");
-        realIs(1, 972, "2r971");
-        realIs(6, 970, "3r971");
-        realIs(-1, 1200, "-inf");
-        MixedNumbers x = new MixedNumbers();
-        for (int r : NO_REGISTERS) {
-            check.due("real(" + r + ", 1, 0)", x.real(r, 1, 0), false);
+    private static void realRefused() {
+        check.sentence("3: false when there is no such register");
+        for (int r : Check.noRegisters()) {
+            check.refused("real(" + r + ", 1, 0)", x -> x.real(r, 1, 0));
+            check.refused("real(" + r + ", 1, 1201)", x -> x.real(r, 1, 1201));
         }
-        for (int e : new int[] {1201, -1201, Integer.MAX_VALUE, Integer.MIN_VALUE}) {
-            check.due("real(0, 0, " + e + ")", x.real(0, 0, e), false);
-            has("the register stays", x, 0, "0");
+        check.sentence("3: false when e is not -1200 .. 1200");
+        for (int e : new int[] {1201, -1201, 1202, -1202, 4096, HIGHEST_INT, LOWEST_INT}) {
+            for (long m : new long[] {0, 1, -1, MIN, MAX}) {
+                check.refused("real(0, " + m + ", " + e + ")", x -> x.real(0, m, e));
+            }
         }
+        check.realIs(0, 1200, "0r0");
+        check.realIs(0, -1200, "0r0");
+        check.realIs(1, 1200, "+inf");
+        check.realIs(-1, 1200, "-inf");
+        check.realIs(1, -1200, "0r0");
+        check.realIs(1, 1199, "+inf");
+        check.realIs(1, -1199, "0r0");
     }
 
     private static void special() {
-        MixedNumbers x = new MixedNumbers();
-        for (int kind = PLUS; kind <= NONE; kind++) {
-            x.real(4, 7, -2);
-            check.due("special(4, " + kind + ")", x.special(4, kind), true);
-            check.value("special", x, 4, kind, 0, 0);
-        }
-        x.whole(4, 8);
-        for (int kind : new int[] {0, 1, 2, 6, -1, Integer.MIN_VALUE, Integer.MAX_VALUE}) {
-            check.due("special(4, " + kind + ")", x.special(4, kind), false);
-            has("the register stays", x, 4, "8");
-        }
-        for (int r : NO_REGISTERS) {
-            check.due("special(" + r + ", 3)", x.special(r, PLUS), false);
-        }
-    }
-
-    private static void wholeArithmetic() {
-        operation(0, "2", "3", "5");
-        operation(0, "" + MAX, "1", "" + MIN);
-        operation(1, "2", "3", "-1");
-        operation(1, "" + MIN, "1", "" + MAX);
-        operation(2, "-7", "6", "-42");
-        operation(2, "" + MAX, "" + MAX, "1");
-        operation(2, "4294967296", "4294967296", "0");
-        operation(3, "6", "3", "1r1");
-        operation(3, "" + MAX, "" + MAX, "1r0");
-    }
-
-    private static void realArithmetic() {
-        operation(0, "1", "1r-1", "3r-1");
-        operation(0, "1r-1", "1r-1", "1r0");
-        operation(0, "" + MAX, "0r0", "1r63");
-        operation(0, "0r0", "0r0", "0r0");
-        operation(1, "3r0", "3", "0r0");
-        operation(1, "0r0", "5r-3", "-5r-3");
-        // Ties go to the even one, and the least more than a tie goes up.
-        operation(0, "1r53", "1", "1r53");
-        operation(0, "4503599627370497r1", "1", "2251799813685249r2");
-        operation(0, "1r53", "4503599627370497r-52", "4503599627370497r1");
-        operation(1, "1r53", "1r-1", "1r53");
-        operation(1, "1r53", "4503599627370497r-53", "9007199254740991r0");
-        operation(1, "1r53", "1r-1074", "1r53");
-        operation(1, "1r-1022", "1r-1074", "4503599627370495r-1074");
-        operation(0, "1r1000", "-1r-1000", (1L << 29) + "r971");
-        operation(0, (P53 - 1) + "r971", "1r970", "+inf");
-        operation(0, (P53 - 1) + "r971", "9007199254740991r917", (P53 - 1) + "r971");
-        operation(1, (1 - P53) + "r971", "1r970", "-inf");
-        operation(2, "3r-1", "-5r-2", "-15r-3");
-        operation(2, (P53 - 1) + "r0", (P53 - 1) + "r0", "4503599627370495r54");
-        operation(2, "1r-537", "1r-537", "1r-1074");
-        operation(2, "1r-537", "1r-538", "0r0");
-        operation(2, "3r-538", "1r-538", "1r-1074");
-        operation(2, "1r600", "-1r600", "-inf");
-        operation(2, "0r0", "-5r0", "0r0");
-        operation(2, (P53 - 1) + "r-1074", "1r-1", "1r-1022");
-        operation(3, "1", "3", "6004799503160661r-54");
-        operation(3, "-1r0", "10", "-3602879701896397r-55");
-        operation(3, "1r-1074", "2", "0r0");
-        operation(3, "3r-1074", "2", "1r-1073");
-        operation(3, "1r1000", "1r-1000", "+inf");
-        operation(3, "0", "-3", "0r0");
-    }
-
-    private static void infinities() {
-        operation(0, "+inf", "+inf", "+inf");
-        operation(0, "+inf", "-5", "+inf");
-        operation(0, "5", "-inf", "-inf");
-        operation(0, "-inf", "+inf", "none");
-        operation(1, "+inf", "+inf", "none");
-        operation(1, "-inf", "-inf", "none");
-        operation(1, "-inf", "+inf", "-inf");
-        operation(1, "7", "-inf", "+inf");
-        operation(2, "+inf", "-2", "-inf");
-        operation(2, "-inf", "-1r-1074", "+inf");
-        operation(2, "-inf", "+inf", "-inf");
-        operation(2, "0", "+inf", "none");
-        operation(2, "-inf", "0r0", "none");
-        operation(3, "+inf", "-inf", "none");
-        operation(3, "-inf", "-2", "+inf");
-        operation(3, "+inf", "-1r-1", "-inf");
-        operation(3, "-inf", "0", "-inf");
-        operation(3, "+inf", "0r0", "+inf");
-        operation(3, "-5", "0", "-inf");
-        operation(3, "1r-1074", "0r0", "+inf");
-        operation(3, "0r0", "0", "none");
-        operation(3, "-7", "+inf", "0r0");
-        operation(3, "0", "-inf", "0r0");
-        for (int what = 0; what <= 5; what++) {
-            operation(what, "none", "5", "none");
-            operation(what, "0", "none", "none");
-            operation(what, "none", "+inf", "none");
-            operation(what, "-inf", "none", "none");
-            operation(what, "none", "none", "none");
-        }
-    }
-
-    private static void quotient() {
-        operation(4, "7", "2", "3");
-        operation(4, "-7", "2", "-4");
-        operation(4, "7", "-2", "-4");
-        operation(4, "-7", "-2", "3");
-        operation(4, "" + MIN, "-1", "" + MIN);
-        operation(4, "" + MAX, "1", "" + MAX);
-        error(4, "5", "0", 1);
-        error(4, "0", "0", 1);
-        operation(4, "7r0", "2", "3r0");
-        operation(4, "-7", "2r0", "-1r2");
-        operation(4, "-1r-1074", "3r0", "0r0");
-        operation(4, "-1r-1000", "1r0", "-1r0");
-        operation(4, "-1r-1074", "1r0", "-1r0");
-        operation(4, "1r-1074", "1r0", "0r0");
-        operation(4, "1r1000", "3r0", third1000());
-        operation(4, "5", "0r0", "+inf");
-        operation(4, "-5r0", "0", "-inf");
-        operation(4, "0r0", "0", "none");
-        operation(4, "-inf", "2", "-inf");
-        operation(4, "-2", "+inf", "0r0");
-        // The quotient is rounded to a real before it is rounded down.
-        operation(4, "9007199254740991r0", "9007199254740991r-53", "1r53");
-        operation(4, "1", "1r-2", "1r2");
-    }
-
-    // 2^1000 / 3 as the machine's own doubles have it, written with the greatest e.
-    private static String third1000() {
-        double d = Math.scalb(1.0, 1000) / 3;
-        int e = Math.getExponent(d) - 52;
-        long m = (long) Math.scalb(d, -e);
-        int zeros = Math.min(Long.numberOfTrailingZeros(m), 971 - e);
-        return (m >> zeros) + "r" + (e + zeros);
-    }
-
-    private static void remainder() {
-        operation(5, "7", "2", "1");
-        operation(5, "-7", "2", "1");
-        operation(5, "7", "-2", "-1");
-        operation(5, "-7", "-2", "-1");
-        operation(5, "" + MIN, "-1", "0");
-        operation(5, "" + MIN, "" + MAX, "" + (MAX - 1));
-        error(5, "5", "0", 1);
-        operation(5, "7r0", "2", "1r0");
-        operation(5, "-7r0", "2", "1r0");
-        operation(5, "7", "-2r0", "-1r0");
-        operation(5, "-6r0", "2", "0r0");
-        operation(5, "11r-1", "3r-1", "1r0");
-        operation(5, "-11r-1", "3r-1", "1r-1");
-        operation(5, "0r0", "-3", "0r0");
-        operation(5, "1r1023", "3", "1r1");
-        operation(5, "1r1023", "-3", "-1r0");
-        operation(5, "1r-1074", "1r1000", "1r-1074");
-        operation(5, "-1r-1074", "1r1000", (1L << 29) + "r971");
-        operation(5, "-1r-1074", "1r-1073", "1r-1074");
-        operation(5, "5", "1r60", "5r0");
-        operation(5, "9007199254740991r0", "1r52", "4503599627370495r0");
-        operation(5, "3r-2", "1r62", "3r-2");
-        operation(5, "5", "0r0", "none");
-        operation(5, "+inf", "3", "none");
-        operation(5, "-inf", "-inf", "none");
-        operation(5, "5", "+inf", "5r0");
-        operation(5, "-5", "-inf", "-5r0");
-        operation(5, "0", "-inf", "0r0");
-        operation(5, "0r0", "+inf", "0r0");
-        operation(5, "-5", "+inf", "+inf");
-        operation(5, "5r-3", "-inf", "-inf");
-    }
-
-    private static void power() {
-        operation(6, "2", "10", "1r10");
-        operation(6, "-3", "3", "-27r0");
-        operation(6, "2", "-1", "1r-1");
-        operation(6, "0", "0", "1r0");
-        operation(6, "0r0", "-3", "+inf");
-        operation(6, "0", "65536", "0r0");
-        operation(6, "none", "0", "1r0");
-        operation(6, "none", "0r0", "1r0");
-        operation(6, "none", "1", "none");
-        operation(6, "none", "-1", "none");
-        operation(6, "+inf", "0", "1r0");
-        operation(6, "-inf", "3", "-inf");
-        operation(6, "-inf", "2", "+inf");
-        operation(6, "-inf", "-3", "0r0");
-        operation(6, "1", "65536", "1r0");
-        operation(6, "-1", "-65536", "1r0");
-        operation(6, "-1", "-65535", "-1r0");
-        operation(6, "2", "1r2", "1r4");
-        operation(6, "2", "1r16", "+inf");
-        operation(6, "2", "-1r16", "0r0");
-        // 2^1074 is beyond the reals, so its inverse is 0, though 2^-1074 is a real.
-        operation(6, "2", "-1074", "0r0");
-        operation(6, "1r-1", "1074", "1r-1074");
-        operation(6, "10", "22", "2384185791015625r22");
-        operation(6, "7r0", "-2", "5882252574524729r-58");
-        String[] wrong = {"65537", "-65537", "1r-1", "65537r0", "131071r-1", "+inf", "-inf", "none",
-            "" + MIN, "" + MAX, "1r63", "-1r63", "1r64", "1r1023", "1r-1074"};
-        for (String b : wrong) {
-            error(6, "2", b, 3);
-            error(6, "none", b, 3);
-        }
-    }
-
-    private static void bits() {
-        operation(7, "12", "10", "8");
-        operation(8, "12", "10", "14");
-        operation(9, "12", "10", "6");
-        operation(7, "-1", "5r0", "5");
-        operation(8, "1r62", "1", "" + ((1L << 62) + 1));
-        operation(9, "-1r63", "-1r0", "" + MAX);
-        operation(7, "0r0", "0r0", "0");
-        String[] wrong = {"1r-1", "1r63", "-4503599627370497r11", "1r64", "1r1023", "+inf", "-inf",
-            "none", "1r-1074", "1r127", "1r128"};
-        for (String v : wrong) {
-            for (int what = 7; what <= 11; what++) {
-                error(what, v, "1", 2);
-                error(what, "1", v, 2);
-            }
-            error(13, v, "1", 2);
-            error(16, v, "1", 2);
-        }
-    }
-
-    private static void shifts() {
-        operation(10, "3", "4", "48");
-        operation(10, "-1", "0", "-1");
-        operation(10, "-1", "63", "" + MIN);
-        operation(10, "-1", "64", "0");
-        operation(10, "-1", "" + MAX, "0");
-        operation(10, "-1", "-1", "" + MAX);
-        operation(10, "-1", "-63", "1");
-        operation(10, "-1", "-64", "0");
-        operation(10, "-1", "" + MIN, "0");
-        operation(10, "-1", "4294967296", "0");
-        operation(10, "-1", "-4294967295", "0");
-        operation(10, "3r0", "1r1", "12");
-        operation(11, "48", "4", "3");
-        operation(11, "-1", "0", "-1");
-        operation(11, "-1", "1", "" + MAX);
-        operation(11, "-1", "63", "1");
-        operation(11, "-1", "64", "0");
-        operation(11, "-1", "-63", "" + MIN);
-        operation(11, "-1", "-64", "0");
-        operation(11, "-1", "" + MIN, "0");
-        operation(11, "-1", "" + MAX, "0");
-        operation(11, "-1", "4294967297", "0");
-    }
-
-    private static void ofOneOperand() {
-        operation(12, "5", "none", "-5");
-        operation(12, "" + MIN, "0", "" + MIN);
-        operation(12, "-5r-1", "0", "5r-1");
-        operation(12, "0r0", "0", "0r0");
-        operation(12, "+inf", "0", "-inf");
-        operation(12, "-inf", "0", "+inf");
-        operation(12, "none", "0", "none");
-        operation(13, "0", "none", "-1");
-        operation(13, "-1r63", "0", "" + MAX);
-        operation(14, "" + MIN, "none", "" + MIN);
-        operation(14, "5r-1", "0", "2");
-        operation(14, "-5r-1", "0", "-3");
-        operation(14, "-1r-1074", "0", "-1");
-        operation(14, "1r-1074", "0", "0");
-        operation(14, "0r0", "0", "0");
-        operation(14, "1r62", "0", "" + (1L << 62));
-        operation(14, "1r63", "0", "1r63");
-        operation(14, "-1r63", "0", "" + MIN);
-        operation(14, "-4503599627370497r11", "0", "-4503599627370497r11");
-        operation(14, "9007199254740991r10", "0", "" + (9007199254740991L << 10));
-        operation(14, "+inf", "0", "+inf");
-        operation(14, "-inf", "0", "-inf");
-        operation(14, "none", "0", "none");
-        operation(15, "6", "none", "3r1");
-        operation(15, "0", "0", "0r0");
-        operation(15, "" + MIN, "0", "-1r63");
-        operation(15, "" + MAX, "0", "1r63");
-        operation(15, "-9007199254740993", "0", "-1r53");
-        operation(15, "9007199254740995", "0", "2251799813685249r2");
-        operation(15, "7r-3", "0", "7r-3");
-        operation(15, "-inf", "0", "-inf");
-        operation(15, "none", "0", "none");
-        operation(16, "" + MAX, "none", "" + MAX);
-        operation(16, "3r2", "0", "12");
-        operation(16, "-1r63", "0", "" + MIN);
-        operation(16, "0r0", "0", "0");
-        operation(17, "5", "none", "5");
-        operation(17, "-5", "0", "5");
-        operation(17, "" + MIN, "0", "" + MIN);
-        operation(17, "-5r-1", "0", "5r-1");
-        operation(17, "5r-1", "0", "5r-1");
-        operation(17, "-inf", "0", "+inf");
-        operation(17, "+inf", "0", "+inf");
-        operation(17, "none", "0", "none");
-    }
-
-    private static void wrongOperations() {
-        MixedNumbers x = new MixedNumbers();
-        x.whole(1, 9);
-        for (int what : new int[] {-1, 18, 19, Integer.MIN_VALUE, Integer.MAX_VALUE}) {
-            check.due("operate(" + what + ", 1, 0, 0)", x.operate(what, 1, 0, 0), -1);
-        }
-        for (int r : NO_REGISTERS) {
-            for (int what = 0; what <= 17; what++) {
-                check.due("operate(" + what + ", " + r + ", 0, 1)", x.operate(what, r, 0, 1), -1);
-                check.due("operate(" + what + ", 1, " + r + ", 1)", x.operate(what, 1, r, 1), -1);
-                check.due("operate(" + what + ", 1, 0, " + r + ")", x.operate(what, 1, 0, r), -1);
+        check.sentence("4: A register gets plus infinity (3), minus infinity (4) or the no-number (5): true");
+        for (int kind = 3; kind <= 5; kind++) {
+            for (int r = 0; r < 32; r++) {
+                MixedNumbers x = check.row(0, "9", "5r-1", "+inf", "-inf", "none", "0r0");
+                long[] before = check.all(x);
+                check.due("special(" + r + ", " + kind + ")", x.special(r, kind), true);
+                check.value("special", x, r, kind, 0, 0);
+                check.stays("special", x, before, r);
             }
         }
-        has("the register stays", x, 1, "9");
-        // No such register comes before the error of the operation.
-        check.due("operate(4, 32, 0, 0)", x.operate(4, 32, 0, 0), -1);
+        check.sentence("4: false when there is no such register");
+        for (int r : Check.noRegisters()) {
+            check.refused("special(" + r + ", 3)", x -> x.special(r, 3));
+            check.refused("special(" + r + ", 5)", x -> x.special(r, 5));
+        }
+        check.sentence("4: false when kind is another one");
+        for (int kind : new int[] {2, 6, 1, 0, -1, 7, -3, LOWEST_INT, HIGHEST_INT}) {
+            check.refused("special(4, " + kind + ")", x -> x.special(4, kind));
+        }
     }
 
-    private static void order(String a, String b, int want) {
-        MixedNumbers x = new MixedNumbers();
-        put(x, 0, a);
-        put(x, 31, b);
-        String call = "compare " + a + " with " + b;
-        check.due(call + " 0", x.compare(0, 0, 31), want == 0 ? 1 : 0);
-        check.due(call + " 1", x.compare(1, 0, 31), want < 0 ? 1 : 0);
-        check.due(call + " 2", x.compare(2, 0, 31), want <= 0 ? 1 : 0);
-        check.due(call + " 0 back", x.compare(0, 31, 0), want == 0 ? 1 : 0);
-        check.due(call + " 1 back", x.compare(1, 31, 0), want > 0 ? 1 : 0);
-        check.due(call + " 2 back", x.compare(2, 31, 0), want >= 0 ? 1 : 0);
-        has(call + ", the register stays", x, 0, a);
+    private static void operateTo() {
+        check.sentence("5: what comes of it goes to a register: 0");
+        for (int to = 0; to < 32; to++) {
+            MixedNumbers x = check.row(4, "9", "-5r-1");
+            long[] before = check.all(x);
+            check.due("operate(0, " + to + ", 4, 5)", x.operate(0, to, 4, 5), 0);
+            check.has("operate(0, " + to + ", 4, 5)", x, to, "13r-1");
+            check.stays("operate", x, before, to);
+        }
+        MixedNumbers x = check.row(31, "3");
+        check.due("operate(2, 31, 31, 31)", x.operate(2, 31, 31, 31), 0);
+        check.has("operate(2, 31, 31, 31)", x, 31, "9");
+        check.due("operate(6, 31, 31, 31)", x.operate(6, 31, 31, 31), 0);
+        check.has("operate(6, 31, 31, 31)", x, 31, "387420489r0");
+        check.due("operate(5, 31, 31, 31)", x.operate(5, 31, 31, 31), 0);
+        check.has("operate(5, 31, 31, 31)", x, 31, "0r0");
     }
 
-    private static void compare() {
-        String[] rising = {"-inf", "-9007199254740991r971", "-4503599627370497r11", "" + MIN,
-            "" + (MIN + 1), "-9007199254740993", "-1r53", "-3", "-5r-1", "-2", "-1r-1074", "0",
-            "1r-1074", "1r-1", "1", "9007199254740991r-52", "2", "9007199254740991", "1r53",
-            "9007199254740993", "4503599627370497r1", "" + MAX, "1r63", "1r64",
-            "9007199254740991r970", "9007199254740991r971", "+inf"};
+    private static void operateErrors() {
+        check.sentence("5: the number of the error (the register stays then)");
+        check.error(4, "5", "0", 1);
+        check.error(5, "5", "0", 1);
+        check.error(6, "5r-1", "1r-1", 3);
+        for (int what = 7; what <= 11; what++) {
+            check.error(what, "5r-1", "1", 2);
+            check.error(what, "1", "none", 2);
+        }
+        check.error(13, "5r-1", "1", 2);
+        check.error(16, "-inf", "1", 2);
+    }
+
+    private static void operateBad() {
+        check.sentence("5: BAD when there are no such registers");
+        for (int r : Check.noRegisters()) {
+            for (int what = 0; what <= 11; what++) {
+                badOperate(what, r);
+            }
+        }
+        check.sentence("5: b has to be one also for 12 to 17");
+        for (int r : Check.noRegisters()) {
+            for (int what = 12; what <= 17; what++) {
+                badOperate(what, r);
+            }
+        }
+        check.sentence("5: BAD when there is no such operation");
+        for (int what : new int[] {-1, 18, 19, -2, 256, LOWEST_INT, HIGHEST_INT}) {
+            check.refused("operate(" + what + ", 0, 4, 5)", x -> x.operate(what, 0, 4, 5), BAD);
+            check.refused("operate(" + what + ", 0, 3, 6)", x -> x.operate(what, 0, 3, 6), BAD);
+            check.refused("operate(" + what + ", 32, 0, 0)", x -> x.operate(what, 32, 0, 0), BAD);
+        }
+    }
+
+    private static void badOperate(int what, int r) {
+        String call = "operate(" + what + ", ";
+        check.refused(call + r + ", 0, 4)", x -> x.operate(what, r, 0, 4), BAD);
+        check.refused(call + "0, " + r + ", 4)", x -> x.operate(what, 0, r, 4), BAD);
+        check.refused(call + "0, 4, " + r + ")", x -> x.operate(what, 0, 4, r), BAD);
+        check.refused(call + r + ", " + r + ", " + r + ")", x -> x.operate(what, r, r, r), BAD);
+        // Where there would be an error as well: a no-number as an operand.
+        check.refused(call + r + ", 3, 3)", x -> x.operate(what, r, 3, 3), BAD);
+        check.refused(call + "0, 3, " + r + ")", x -> x.operate(what, 0, 3, r), BAD);
+    }
+
+    private static void compareSizes() {
+        check.sentence("6: equal (0), less (1), less or equal (2): 1 or 0");
+        check.order("2", "3", -1);
+        check.order("-3", "-2", -1);
+        check.order("3", "3", 0);
+        check.order("3r-1", "5r-1", -1);
+        check.order("3r-1", "3r-1", 0);
+        check.order("+inf", "+inf", 0);
+        MixedNumbers same = check.row(8, "5r-1");
+        check.due("compare(0, 8, 8)", same.compare(0, 8, 8), 1);
+        check.due("compare(1, 8, 8)", same.compare(1, 8, 8), 0);
+        check.due("compare(2, 8, 8)", same.compare(2, 8, 8), 1);
+        check.sentence("6: exactly, whole numbers and reals by their size");
+        // Each is less than all that come after it, whatever their kinds are.
+        String[] rising = {"-inf", LOWEST, "-1r64", "-4503599627370497r11", "" + MIN, "" + (MIN + 1),
+            "-9007199254740991r10", "-9007199254740993", "-1r53", "-9007199254740991", "-3", "-5r-1", "-2",
+            "-9007199254740991r-53", "-1r-64", "-1r-1074", "0", LEAST, "1r-1073", "1r-64", "1r-1",
+            "9007199254740991r-53", "1", "9007199254740991r-52", "2", "9007199254740991", "1r53",
+            "9007199254740993", "4503599627370497r1", "9223372036854774784", "9223372036854774785", "" + (MAX - 1), "" + MAX, "1r63", "1r64",
+            "9007199254740991r970", GREATEST, "+inf"};
         for (int i = 0; i < rising.length; i++) {
             for (int k = i; k < rising.length; k++) {
-                order(rising[i], rising[k], i == k ? 0 : -1);
+                check.order(rising[i], rising[k], i == k ? 0 : -1);
             }
         }
-        order("" + MIN, "-1r63", 0);
-        order("0", "0r0", 0);
-        order("12", "3r2", 0);
-        order("-7", "-7r0", 0);
-        MixedNumbers x = new MixedNumbers();
-        x.special(0, NONE);
-        x.special(2, PLUS);
-        x.special(3, NONE);
+        check.order("" + MIN, "-1r63", 0);
+        check.order("0", "0r0", 0);
+        check.order("12", "3r2", 0);
+        check.order("-7", "-7r0", 0);
+        check.order("9223372036854774784", "9007199254740991r10", 0);
+    }
+
+    private static void compareNoNumber() {
+        check.sentence("6: with a no-number 0");
+        for (String v : new String[] {"0", "-5", "5r-1", "0r0", "+inf", "-inf", "none", "" + MIN, GREATEST}) {
+            check.order("none", v, 2);
+            check.order(v, "none", 2);
+        }
+        MixedNumbers x = check.row(8, "none");
         for (int what = 0; what <= 2; what++) {
-            for (int r = 0; r < 4; r++) {
-                check.due("compare with a no-number", x.compare(what, 0, r), 0);
-                check.due("compare with a no-number", x.compare(what, r, 0), 0);
-            }
-            for (int r : NO_REGISTERS) {
-                check.due("compare(" + what + ", 0, " + r + ")", x.compare(what, 0, r), -1);
-                check.due("compare(" + what + ", " + r + ", 0)", x.compare(what, r, 0), -1);
-            }
-        }
-        for (int what : new int[] {-1, 3, Integer.MIN_VALUE, Integer.MAX_VALUE}) {
-            check.due("compare(" + what + ", 1, 1)", x.compare(what, 1, 1), -1);
-            check.due("compare(" + what + ", 0, 0)", x.compare(what, 0, 0), -1);
+            check.due("compare(" + what + ", 8, 8)", x.compare(what, 8, 8), 0);
         }
     }
 
-    private static void readings() {
-        MixedNumbers x = new MixedNumbers();
-        for (int r : NO_REGISTERS) {
-            check.due("kind(" + r + ")", x.kind(r), -1);
-            check.due("number(" + r + ")", x.number(r), 0);
-            check.due("exponent(" + r + ")", x.exponent(r), 0);
+    private static void compareBad() {
+        check.sentence("6: BAD when there are no such registers");
+        for (int r : Check.noRegisters()) {
+            for (int what = 0; what <= 2; what++) {
+                int asked = what;
+                check.refused("compare(" + what + ", 0, " + r + ")", x -> x.compare(asked, 0, r), BAD);
+                check.refused("compare(" + what + ", " + r + ", 0)", x -> x.compare(asked, r, 0), BAD);
+                check.refused("compare(" + what + ", " + r + ", 3)", x -> x.compare(asked, r, 3), BAD);
+                check.refused("compare(" + what + ", " + r + ", " + r + ")", x -> x.compare(asked, r, r), BAD);
+            }
         }
-        String[] all = {"12", "" + MIN, "3r2", "-5r-1074", "0r0", "+inf", "-inf", "none"};
-        for (String text : all) {
-            put(x, 6, text);
-            has("what was put", x, 6, text);
+        check.sentence("6: BAD for another what");
+        for (int what : new int[] {-1, 3, 4, LOWEST_INT, HIGHEST_INT}) {
+            check.refused("compare(" + what + ", 0, 0)", x -> x.compare(what, 0, 0), BAD);
+            check.refused("compare(" + what + ", 0, 4)", x -> x.compare(what, 0, 4), BAD);
+            check.refused("compare(" + what + ", 3, 3)", x -> x.compare(what, 3, 3), BAD);
         }
     }
 
-    private static MixedNumbers row(int from, String... values) {
-        MixedNumbers x = new MixedNumbers();
-        for (int i = 0; i < values.length; i++) {
-            put(x, from + i, values[i]);
+    private static void kind() {
+        check.sentence("7: 1 a whole number, 2 a real, 3 plus infinity, 4 minus infinity, 5 the no-number");
+        String[][] kinds = {{}, {"0", "5", "" + MIN}, {"0r0", "5r0", "-5r-1", GREATEST, LEAST},
+            {"+inf"}, {"-inf"}, {"none"}};
+        for (int kind = 1; kind <= 5; kind++) {
+            for (String v : kinds[kind]) {
+                check.due("kind of " + v, check.row(31, v).kind(31), kind);
+            }
         }
-        return x;
+        check.sentence("7: BAD when there is none such");
+        for (int r : Check.noRegisters()) {
+            check.refused("kind(" + r + ")", x -> x.kind(r), BAD);
+        }
+    }
+
+    private static void number() {
+        check.sentence("8: Of a whole number: itself");
+        for (long v : new long[] {0, 12, -12, MIN, MAX, P53 + 1}) {
+            check.due("number of " + v, check.row(31, "" + v).number(31), v);
+        }
+        check.sentence("8: Of a real: m, when it is written with the greatest e (0 for 0)");
+        numberIs("12r0", 3);
+        numberIs("-12r0", -3);
+        numberIs("" + P53 + "r0", 1);
+        numberIs(MIN + "r0", -1);
+        numberIs("5r-1074", 5);
+        numberIs("6r-1074", 3);
+        numberIs("6r970", 3);
+        numberIs("6r971", 6);
+        numberIs("1r1023", P53 / 2);
+        numberIs("-1r1022", -P53 / 4);
+        numberIs(GREATEST, P53 - 1);
+        numberIs("9007199254740990r971", P53 - 2);
+        numberIs("9007199254740990r970", P53 / 2 - 1);
+        numberIs("0r0", 0);
+        numberIs("0r971", 0);
+        check.sentence("8: 0 of others, and when there is no such register");
+        for (String v : new String[] {"+inf", "-inf", "none"}) {
+            numberIs(v, 0);
+        }
+        for (int r : Check.noRegisters()) {
+            check.refused("number(" + r + ")", x -> x.number(r), 0);
+        }
+    }
+
+    private static void numberIs(String text, long want) {
+        MixedNumbers x = check.row(31, "7r-3");
+        check.put(x, 31, text);
+        check.due("number of " + text, x.number(31), want);
+    }
+
+    private static void exponent() {
+        check.sentence("9: Of a real other than 0: the greatest e with which it is m * 2^e");
+        exponentIs("12r0", 2);
+        exponentIs("-12r0", 2);
+        exponentIs("" + P53 + "r0", 53);
+        exponentIs(MIN + "r0", 63);
+        exponentIs("5r-1074", -1074);
+        exponentIs("6r-1074", -1073);
+        exponentIs("6r970", 971);
+        exponentIs("6r971", 971);
+        exponentIs("1r1023", 971);
+        exponentIs("-1r1022", 971);
+        exponentIs(GREATEST, 971);
+        exponentIs("9007199254740990r971", 971);
+        exponentIs("9007199254740990r970", 971);
+        exponentIs("9007199254740990r969", 970);
+        check.sentence("9: 0 of others, and when there is no such register");
+        for (String v : new String[] {"0r0", "0r971", "0r-1074", "0", "12", "" + MIN, "+inf", "-inf", "none"}) {
+            exponentIs(v, 0);
+        }
+        for (int r : Check.noRegisters()) {
+            check.refused("exponent(" + r + ")", x -> x.exponent(r), 0);
+        }
+    }
+
+    private static void exponentIs(String text, int want) {
+        MixedNumbers x = check.row(31, "7r-3");
+        check.put(x, 31, text);
+        check.due("exponent of " + text, x.exponent(31), want);
     }
 
     private static void sumIs(String want, String... values) {
         int from = 32 - values.length;
-        MixedNumbers x = row(from, values);
+        MixedNumbers x = check.row(from, values);
+        long[] before = check.all(x);
         check.due("sum", x.sum(0, from, values.length), true);
-        has("sum of " + String.join(", ", values), x, 0, want);
-        for (int i = 0; i < values.length; i++) {
-            has("sum, the row stays", x, from + i, values[i]);
-        }
-        if (values.length > 0) {
-            check.due("sum", x.sum(31, from, values.length), true);
-            has("sum to one of the row", x, 31, want);
-        }
-    }
-
-    private static void wrongRows(String name, java.util.function.BiPredicate<Integer, Integer> call) {
-        int[][] rows = {{-1, 0}, {-1, 1}, {0, -1}, {0, 33}, {1, 32}, {31, 2}, {32, 1}, {33, 0},
-            {33, -1}, {10, 23}, {Integer.MAX_VALUE, 1}, {1, Integer.MAX_VALUE},
-            {Integer.MAX_VALUE, Integer.MAX_VALUE}, {Integer.MIN_VALUE, Integer.MIN_VALUE},
-            {Integer.MIN_VALUE, 0}, {0, Integer.MIN_VALUE}, {32, Integer.MIN_VALUE}};
-        for (int[] row : rows) {
-            check.due(name + " of " + row[0] + ", " + row[1], call.test(row[0], row[1]), false);
-        }
-        int[][] right = {{0, 0}, {32, 0}, {31, 1}, {0, 32}};
-        for (int[] row : right) {
-            check.due(name + " of " + row[0] + ", " + row[1], call.test(row[0], row[1]), true);
-        }
+        check.has("sum of " + String.join(", ", values), x, 0, want);
+        check.stays("sum", x, before, 0);
     }
 
     private static void sum() {
-        sumIs("0");
+        check.sentence("10: The sum of the registers from one on, n of them, by 0 (a + b)");
         sumIs("6", "1", "2", "3");
         sumIs("7r-1", "1", "5r-1");
         sumIs("" + MIN, "" + MAX, "1");
-        // Whole as long as all are whole: the sum wraps before the real comes.
-        sumIs("-1r63", "" + MAX, "1", "0r0");
-        sumIs("1r63", "0r0", "" + MAX, "1");
-        // One after the other: the small ones are lost one by one.
-        sumIs("1r53", "1r53", "1", "1");
-        sumIs("4503599627370497r1", "1", "1", "1r53");
-        sumIs("0r0", "0r0");
         sumIs("none", "+inf", "1", "-inf");
         sumIs("none", "1", "none", "2");
         sumIs("-inf", "1", "-inf", "1r-3");
-        MixedNumbers x = row(0, "5", "6");
-        for (int r : NO_REGISTERS) {
-            check.due("sum(" + r + ", 0, 1)", x.sum(r, 0, 1), false);
-            check.due("sum(" + r + ", 0, 0)", x.sum(r, 0, 0), false);
+        for (int from = 0; from <= 32; from++) {
+            for (int n = 0; n <= 32 - from; n++) {
+                sumOfBits(from, n);
+            }
         }
-        has("the register stays", x, 0, "5");
-        x.whole(9, 77);
-        check.due("sum", x.sum(9, 31, 2), false);
-        has("the register stays", x, 9, "77");
-        wrongRows("sum", (from, n) -> new MixedNumbers().sum(0, from, n));
-        check.due("sum of none", x.sum(9, 32, 0), true);
-        has("sum of none", x, 9, "0");
+        check.sentence("10: one after the other");
+        sumIs("1r53", "1r53", "1", "1");
+        sumIs("4503599627370497r1", "1", "1", "1r53");
+        sumIs("1r53", "1", "1r53", "1");
+        sumIs("0r0", "1", "1r60", "-1r60");
+        sumIs("1r0", "1r60", "-1r60", "1");
+        sumIs("-1r63", "" + MAX, "1", "0r0");
+        sumIs("1r63", "0r0", "" + MAX, "1");
+        check.sentence("10: beginning with the whole number 0");
+        sumIs("0");
+        sumIs("7", "7");
+        sumIs("0r0", "0r0");
+        sumIs("1r53", "9007199254740993r0");
+        sumIs("9007199254740993", "9007199254740993");
+        sumIs("+inf", "+inf");
+        sumIs("none", "none");
+    }
+
+    // Each register has a bit of its own, so that the sum tells which of them were added.
+    private static void sumOfBits(int from, int n) {
+        MixedNumbers x = new MixedNumbers();
+        for (int r = 0; r < 32; r++) {
+            x.whole(r, 1L << r);
+        }
+        String call = "sum(7, " + from + ", " + n + ")";
+        check.due(call, x.sum(7, from, n), true);
+        check.has(call, x, 7, "" + (((1L << n) - 1) << from));
+    }
+
+    private static void refusedRows(String name, RowCall call) {
+        int[][] below = {{-1, 0}, {-1, 1}, {-1, 33}, {LOWEST_INT, 0}, {LOWEST_INT, 1}, {LOWEST_INT, HIGHEST_INT}};
+        check.sentence(name + ": false when from is less than 0");
+        refusedEach(name, call, below);
+        int[][] fewer = {{0, -1}, {5, -1}, {31, -1}, {32, -1}, {33, -1}, {0, LOWEST_INT}, {32, LOWEST_INT},
+            {HIGHEST_INT, LOWEST_INT}, {-1, -1}, {LOWEST_INT, LOWEST_INT}};
+        check.sentence(name + ": false when n is less than 0");
+        refusedEach(name, call, fewer);
+        int[][] beyond = {{0, 33}, {1, 32}, {10, 23}, {31, 2}, {32, 1}, {33, 0}, {33, 1}, {34, 0}, {0, HIGHEST_INT},
+            {1, HIGHEST_INT}, {32, HIGHEST_INT}, {HIGHEST_INT, 0}, {HIGHEST_INT, 1}, {HIGHEST_INT, HIGHEST_INT}};
+        check.sentence(name + ": false when from + n is more than 32");
+        refusedEach(name, call, beyond);
+    }
+
+    private static void refusedEach(String name, RowCall call, int[][] rows) {
+        for (int[] row : rows) {
+            check.refused(name + " of " + row[0] + ", " + row[1], x -> call.of(x, row[0], row[1]));
+        }
+    }
+
+    private static void allowedRows(String name, RowCall call) {
+        int[][] rows = {{0, 0}, {0, 1}, {0, 32}, {1, 31}, {31, 1}, {31, 0}, {16, 16}};
+        check.sentence(name + ": true when from is 0 or more, n, too, and from + n at most 32");
+        for (int[] row : rows) {
+            check.due(name + " of " + row[0] + ", " + row[1], call.of(new MixedNumbers(), row[0], row[1]), true);
+        }
+    }
+
+    private static void sumRows() {
+        refusedRows("10: sum", (x, from, n) -> x.sum(0, from, n));
+        allowedRows("10: sum", (x, from, n) -> x.sum(0, from, n));
+        check.sentence("10: false when there are no such registers: to");
+        for (int r : Check.noRegisters()) {
+            check.refused("sum(" + r + ", 0, 1)", x -> x.sum(r, 0, 1));
+            check.refused("sum(" + r + ", 0, 0)", x -> x.sum(r, 0, 0));
+            check.refused("sum(" + r + ", 32, 0)", x -> x.sum(r, 32, 0));
+        }
+        check.sentence("10: a row of none may begin at 32");
+        for (int from = 0; from <= 32; from++) {
+            MixedNumbers x = check.row(9, "5r-1");
+            long[] before = check.all(x);
+            check.due("sum(9, " + from + ", 0)", x.sum(9, from, 0), true);
+            check.has("sum(9, " + from + ", 0)", x, 9, "0");
+            check.stays("sum of none", x, before, 9);
+        }
+    }
+
+    private static void sumTo() {
+        check.sentence("10: the sum goes to a register, also one of the row");
+        for (int to = 0; to < 32; to++) {
+            MixedNumbers x = check.row(4, "1", "2", "3r-1", "4");
+            long[] before = check.all(x);
+            check.due("sum(" + to + ", 4, 4)", x.sum(to, 4, 4), true);
+            check.has("sum(" + to + ", 4, 4)", x, to, "17r-1");
+            check.stays("sum(" + to + ", 4, 4)", x, before, to);
+        }
     }
 
     private static void polynomialIs(String want, String at, String... values) {
         String call = "polynomial at " + at + " of " + String.join(", ", values);
-        for (int to : new int[] {0, 30, 31, 31 - values.length}) {
-            int from = 31 - values.length;
-            MixedNumbers x = row(from, values);
-            put(x, 31, at);
-            check.due(call, x.polynomial(to, 31, from, values.length), true);
-            has(call + " to " + to, x, to, want);
-        }
+        int from = 31 - values.length;
+        MixedNumbers x = check.row(from, values);
+        check.put(x, 31, at);
+        long[] before = check.all(x);
+        check.due(call, x.polynomial(0, 31, from, values.length), true);
+        check.has(call, x, 0, want);
+        check.stays(call, x, before, 0);
     }
 
     private static void polynomial() {
-        polynomialIs("0", "5");
-        polynomialIs("7", "5", "7");
+        check.sentence("11: the factors of a polynomial, the lowest first");
         polynomialIs("321", "10", "1", "2", "3");
         polynomialIs("-3r2", "-2", "3", "7r-1", "-2");
+        polynomialIs("1", "0", "1", "2", "3");
         polynomialIs("1r0", "0", "1", "5r-1");
+        check.sentence("11: from the highest factor on, by 2 (times x), then 0 (plus the factor)");
         polynomialIs("" + MIN, "2", "0", "" + (1L << 62));
         polynomialIs("1r63", "2r0", "0", "" + (1L << 62));
-        // The beginning is 0 times x: the no-number where x is an infinity.
+        // 2^53 * 2 + 1 loses the 1; so does the last step.
+        polynomialIs("1r55", "2", "1", "1", "1r53");
+        polynomialIs("+inf", "1r600", "-1r1000", "0", "1");
+        polynomialIs("none", "1r600", "-inf", "0", "1");
+        polynomialIs("-inf", "-2", "1", "+inf");
+        polynomialIs("none", "0", "1", "+inf");
+        polynomialIs("none", "2", "1", "none", "1");
+        check.sentence("11: beginning with the whole number 0");
+        polynomialIs("0", "5");
+        polynomialIs("0", "5r-1");
+        polynomialIs("0", "none");
+        polynomialIs("0", "+inf");
+        polynomialIs("7", "5", "7");
+        polynomialIs("9007199254740993", "5", "9007199254740993");
+        // 0 times a real is a real, and 0 times an infinity is the no-number.
+        polynomialIs("7r0", "3r0", "7");
         polynomialIs("none", "+inf", "7");
         polynomialIs("none", "-inf", "1", "2");
         polynomialIs("none", "none", "7");
-        polynomialIs("0", "none");
-        polynomialIs("7r0", "3r0", "7");
         polynomialIs("+inf", "2", "+inf");
-        polynomialIs("-inf", "-2", "1", "+inf");
-        polynomialIs("none", "0", "1", "+inf");
-        MixedNumbers x = row(0, "2", "3");
-        check.due("x is a factor", x.polynomial(1, 1, 0, 2), true);
-        has("x is a factor", x, 1, "11");
-        for (int r : NO_REGISTERS) {
-            check.due("polynomial(" + r + ", 0, 0, 1)", x.polynomial(r, 0, 0, 1), false);
-            check.due("polynomial(0, " + r + ", 0, 1)", x.polynomial(0, r, 0, 1), false);
-            check.due("polynomial(0, " + r + ", 0, 0)", x.polynomial(0, r, 0, 0), false);
+    }
+
+    private static void polynomialRows() {
+        refusedRows("11: polynomial", (x, from, n) -> x.polynomial(0, 4, from, n));
+        allowedRows("11: polynomial", (x, from, n) -> x.polynomial(0, 4, from, n));
+        check.sentence("11: false likewise: no such registers to, x");
+        for (int r : Check.noRegisters()) {
+            for (int n = 0; n <= 1; n++) {
+                int count = n;
+                check.refused("polynomial(" + r + ", 0, 0, " + n + ")", x -> x.polynomial(r, 0, 0, count));
+                check.refused("polynomial(0, " + r + ", 0, " + n + ")", x -> x.polynomial(0, r, 0, count));
+            }
+            check.refused("polynomial(0, " + r + ", 32, 0)", x -> x.polynomial(0, r, 32, 0));
+            check.refused("polynomial(" + r + ", 0, 32, 0)", x -> x.polynomial(r, 0, 32, 0));
         }
-        check.due("polynomial(0, 1, 1, 32)", x.polynomial(0, 1, 1, 32), false);
-        has("the register stays", x, 0, "2");
-        wrongRows("polynomial", (from, n) -> new MixedNumbers().polynomial(0, 1, from, n));
+        check.sentence("11: a row of none may begin at 32");
+        for (int from = 0; from <= 32; from++) {
+            MixedNumbers x = check.row(9, "5r-1");
+            long[] before = check.all(x);
+            check.due("polynomial(9, 9, " + from + ", 0)", x.polynomial(9, 9, from, 0), true);
+            check.has("polynomial(9, 9, " + from + ", 0)", x, 9, "0");
+            check.stays("polynomial of none", x, before, 9);
+        }
+    }
+
+    private static void polynomialTo() {
+        check.sentence("11: x has what it had, also when to is x or one of the factors");
+        for (int to = 0; to < 32; to++) {
+            MixedNumbers x = check.row(4, "1", "2", "3", "10");
+            long[] before = check.all(x);
+            check.due("polynomial(" + to + ", 7, 4, 3)", x.polynomial(to, 7, 4, 3), true);
+            check.has("polynomial(" + to + ", 7, 4, 3)", x, to, "321");
+            check.stays("polynomial(" + to + ", 7, 4, 3)", x, before, to);
+        }
+        // x is one of the factors: 2 + 3 * x + 5 * x^2 for x = 2, 3, 5.
+        String[] want = {"28", "56", "142"};
+        for (int at = 0; at < 3; at++) {
+            for (int to = 0; to < 4; to++) {
+                MixedNumbers x = check.row(0, "2", "3", "5");
+                long[] before = check.all(x);
+                String call = "polynomial(" + to + ", " + at + ", 0, 3)";
+                check.due(call, x.polynomial(to, at, 0, 3), true);
+                check.has(call, x, to, want[at]);
+                check.stays(call, x, before, to);
+            }
+        }
     }
 
     private static void sorted(String values, String want) {
         String[] row = values.isEmpty() ? new String[0] : values.split(" ");
         String[] wanted = want.isEmpty() ? new String[0] : want.split(" ");
         int from = 31 - row.length;
-        MixedNumbers x = row(from, row);
+        MixedNumbers x = check.row(from, row);
         x.whole(from - 1, MAX);
         x.whole(31, MIN);
         check.due("sort", x.sort(from, row.length), true);
         for (int i = 0; i < wanted.length; i++) {
-            has("sort of " + values, x, from + i, wanted[i]);
+            check.has("sort of " + values, x, from + i, wanted[i]);
         }
-        has("before the row", x, from - 1, "" + MAX);
-        has("behind the row", x, 31, "" + MIN);
+        check.has("before the row", x, from - 1, "" + MAX);
+        check.has("behind the row", x, 31, "" + MIN);
     }
 
     private static void sort() {
-        sorted("", "");
+        check.sentence("12: a register goes before another one when it is less");
         sorted("5", "5");
         sorted("2 1", "1 2");
+        sorted("1 2 3 4 5", "1 2 3 4 5");
+        sorted("5 4 3 2 1", "1 2 3 4 5");
         sorted("3 5r-1 2 +inf -inf 0r0", "-inf 0r0 2 5r-1 3 +inf");
-        // Equal ones of both kinds keep their order.
+        sorted("1r63 " + MAX + " -1r64 " + MIN, "-1r64 " + MIN + " " + MAX + " 1r63");
+        sorted("9007199254740993 1r53 9007199254740991", "9007199254740991 1r53 9007199254740993");
+        sorted("-1r-1074 0 1r-1074 -5 " + LOWEST + " " + GREATEST,
+            LOWEST + " -5 -1r-1074 0 1r-1074 " + GREATEST);
+        check.sentence("12: equal ones keep their order");
         sorted("3r0 1 3 1r0 3r0", "1 1r0 3r0 3 3r0");
         sorted("3 1r0 3r0 1 3", "1r0 1 3 3r0 3");
+        sorted("0 0r0 0", "0 0r0 0");
+        sorted("0r0 0 0r0 -1", "-1 0r0 0 0r0");
+        sorted("-1r63 " + MIN, "-1r63 " + MIN);
+        sorted(MIN + " -1r63", MIN + " -1r63");
+        everyRowOfFour();
+        check.sentence("12: a no-number goes behind all others (these keep theirs)");
         sorted("none 2 none 1", "1 2 none none");
         sorted("none +inf none -inf", "-inf +inf none none");
+        sorted("none 3 none 3r0 none 1", "1 3 3r0 none none none");
+        sorted("3r0 none 3 none", "3r0 3 none none");
+        sorted("none", "none");
+        sorted("none none", "none none");
         sorted("+inf none 9007199254740993 1r53 9007199254740992 none",
             "1r53 9007199254740992 9007199254740993 +inf none none");
-        sorted("1r63 " + MAX + " -1r63 " + MIN, "-1r63 " + MIN + " " + MAX + " 1r63");
+    }
+
+    // By a plain count: before each of these go those that are less, and equal ones from its left.
+    private static void everyRowOfFour() {
+        String[] values = {"1", "1r0", "3", "3r0", "-1"};
+        int[] sizes = {1, 1, 3, 3, -1};
+        for (int code = 0; code < 625; code++) {
+            int[] row = {code % 5, code / 5 % 5, code / 25 % 5, code / 125};
+            List<Integer> want = new ArrayList<>();
+            for (int size : new int[] {-1, 1, 3}) {
+                for (int v : row) {
+                    if (sizes[v] == size) {
+                        want.add(v);
+                    }
+                }
+            }
+            StringBuilder before = new StringBuilder();
+            StringBuilder after = new StringBuilder();
+            for (int i = 0; i < 4; i++) {
+                before.append(i > 0 ? " " : "").append(values[row[i]]);
+                after.append(i > 0 ? " " : "").append(values[want.get(i)]);
+            }
+            sorted(before.toString(), after.toString());
+        }
+    }
+
+    private static void sortRows() {
+        refusedRows("12: sort", (x, from, n) -> x.sort(from, n));
+        allowedRows("12: sort", (x, from, n) -> x.sort(from, n));
+        check.sentence("12: a row of none may begin at 32");
+        for (int from = 0; from <= 32; from++) {
+            MixedNumbers x = check.row(0, "9", "none", "-5r-1", "1");
+            long[] before = check.all(x);
+            check.due("sort(" + from + ", 0)", x.sort(from, 0), true);
+            check.stays("sort of none", x, before, -1);
+        }
+        check.sentence("12: Sorts the registers from one on, n of them");
+        for (int from = 0; from < 32; from++) {
+            for (int n = 0; n <= 32 - from; n++) {
+                sortedFrom(from, n);
+            }
+        }
+        check.sentence("12: each register is one of its own after a sort");
+        MixedNumbers x = check.row(0, "3", "1", "2");
+        x.sort(0, 3);
+        x.whole(0, 100);
+        check.has("after a sort", x, 1, "2");
+        check.has("after a sort", x, 2, "3");
+        x.operate(0, 1, 0, 2);
+        check.has("after a sort", x, 1, "103");
+        check.has("after a sort", x, 2, "3");
+    }
+
+    // The registers fall from 31 to 0; the row rises afterwards, and the others stay.
+    private static void sortedFrom(int from, int n) {
         MixedNumbers x = new MixedNumbers();
         for (int r = 0; r < 32; r++) {
-            x.whole(r, (r * 11) % 32);
+            x.whole(r, 31 - r);
         }
-        check.due("sort(0, 32)", x.sort(0, 32), true);
+        String call = "sort(" + from + ", " + n + ")";
+        check.due(call, x.sort(from, n), true);
         for (int r = 0; r < 32; r++) {
-            has("sort(0, 32)", x, r, "" + r);
+            boolean inRow = r >= from && r < from + n;
+            int want = inRow ? 31 - (from + n - 1 - (r - from)) : 31 - r;
+            check.has(call, x, r, "" + want);
         }
-        x.whole(0, 5);
-        check.due("sort(0, 33)", x.sort(0, 33), false);
-        has("the register stays", x, 0, "5");
-        wrongRows("sort", (from, n) -> new MixedNumbers().sort(from, n));
-        // A register that was sorted is one of its own still.
-        x.sort(0, 32);
-        x.whole(3, 100);
-        has("after a sort", x, 2, "3");
-        has("after a sort", x, 4, "5");
+    }
+
+    private static void manyCalls() {
+        check.sentence("An object is used for at most 512 calls after it has been made");
+        MixedNumbers x = new MixedNumbers();
+        for (int call = 1; call <= 510; call++) {
+            check.due("operate", x.operate(call % 2 == 0 ? 13 : 12, 31, 31, 0), 0);
+        }
+        // -a, then all bits turned round, which is a - 1: 255 times.
+        check.due("call 511", x.kind(31), 1);
+        check.due("call 512", x.number(31), -255);
     }
 }
