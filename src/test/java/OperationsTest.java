@@ -31,6 +31,7 @@ public final class OperationsTest {
         remainderNoNumber();
         remainderByInfinity();
         realRemainder();
+        powerOfReals();
         powerErrors();
         power();
         bitsOfWhole();
@@ -215,6 +216,14 @@ public final class OperationsTest {
         check.operation(5, LEAST, GREATEST, LEAST);
         check.operation(5, LEAST, "1r1000", LEAST);
         check.operation(5, "5", "1r60", "5r0");
+        for (int e = -66; e < 0; e++) {
+            check.operation(5, "9007199254740989r" + e, "9007199254740991r0", "9007199254740989r" + e);
+            check.operation(5, "1r" + e, "1r0", "1r" + e);
+        }
+        for (int e = 0; e <= 66; e++) {
+            check.operation(5, "1r" + e, "3r0", e % 2 == 0 ? "1r0" : "1r1");
+            check.operation(5, "-1r" + e, "-3r0", e % 2 == 0 ? "-1r0" : "-1r1");
+        }
         check.sentence("5 REMAINDER: the result is f when it is 0 or of the sign of b");
         check.operation(5, "-6r0", "2", "0r0");
         check.operation(5, "6r0", "-2", "0r0");
@@ -227,6 +236,8 @@ public final class OperationsTest {
         check.operation(5, "-7r0", "2", "1r0");
         check.operation(5, "7", "-2r0", "-1r0");
         check.operation(5, "-11r-1", "3r-1", "1r-1");
+        check.operation(5, "-1r5", "3", "1r0");
+        check.operation(5, "1r5", "-3", "-1r0");
         check.operation(5, "1r1023", "-3", "-1r0");
         check.operation(5, "-1r-1074", "1r-1073", LEAST);
         // f + b that is no real: b itself is the nearest, or the even one of two.
@@ -245,6 +256,21 @@ public final class OperationsTest {
         long rest = a.mod(java.math.BigInteger.valueOf(Check.P53 - 3)).longValueExact();
         int zeros = Long.numberOfTrailingZeros(rest);
         return (rest >> zeros) + "r" + (zeros - 1074);
+    }
+
+    private static void powerOfReals() {
+        check.sentence("6 POWER: both as reals");
+        check.operation(6, "3", "2", "9r0");
+        check.operation(6, "3", "2r0", "9r0");
+        check.operation(6, "3r0", "2", "9r0");
+        check.operation(6, "3", "0", "1r0");
+        // Whole numbers lose bits beyond 53 before they are raised.
+        check.operation(6, "9007199254740993", "1", "1r53");
+        check.operation(6, "9007199254740993", "2", "1r106");
+        check.operation(6, "9007199254740993", "-2", "1r-106");
+        check.operation(6, "" + MAX, "2", "1r126");
+        check.operation(6, "" + MAX, "3", "1r189");
+        check.operation(6, "" + MIN, "3", "-1r189");
     }
 
     private static void powerErrors() {
@@ -307,7 +333,6 @@ public final class OperationsTest {
         check.operation(6, "2", "1r2", "1r4");
         check.operation(6, "-3", "3", "-27r0");
         check.operation(6, "-3r0", "2r0", "9r0");
-        check.operation(6, "9007199254740993", "1", "1r53");
         check.operation(6, "10", "22", "2384185791015625r22");
         // 0.1 raised to 7: the order of the products can be seen in the last bits.
         check.operation(6, "3602879701896397r-55", "7", text(0.1 * (0.1 * 0.1) * ((0.1 * 0.1) * (0.1 * 0.1))));

@@ -199,6 +199,9 @@ public final class TermsTest {
         check.operation(2, "4503599627370497r0", "3", "3377699720527873r2");
         check.operation(2, "4503599627370499r0", "3", "1688849860263937r3");
         check.operation(2, "-4503599627370497r0", "3", "-3377699720527873r2");
+        // A product of more than 64 bits, with an even m that e = 971 has left.
+        check.operation(2, "3r1022", "4503599627370497r-100", "3377699720527873r924");
+        check.operation(2, "4503599627370499r-100", "-3r1022", "-1688849860263937r925");
         // Among the least reals, which all have -1074 as their least e.
         check.realIs(1, -1075, "0r0");
         check.realIs(3, -1075, "1r-1073");
@@ -264,6 +267,11 @@ public final class TermsTest {
         check.operation(2, "1r-537", "4503599627370497r-590", LEAST);
         check.operation(2, "-1r-537", "4503599627370497r-590", "-1r-1074");
         check.operation(2, "1r-537", "9007199254740991r-591", "0r0");
+        // Products of more than 64 bits, a little above and a little below.
+        check.operation(2, "4503599627370497r-589", "4503599627370497r-590", LEAST);
+        check.operation(2, "4503599627370497r-589", "-4503599627370497r-590", "-1r-1074");
+        check.operation(2, "9007199254740991r-590", "9007199254740991r-591", "0r0");
+        check.operation(2, "9007199254740991r-591", "9007199254740991r-591", "0r0");
         check.operation(2, LEAST, LEAST, "0r0");
         check.operation(3, LEAST, "2", "0r0");
         check.operation(3, LEAST, "9007199254740991r-52", LEAST);
@@ -320,6 +328,10 @@ public final class TermsTest {
         check.operation(1, "0r0", "5r-3", "-5r-3");
         check.operation(1, "1r-1022", LEAST, "4503599627370495r-1074");
         check.operation(1, "9007199254740991r1", "9007199254740990r1", "1r1");
+        for (int e = 54; e <= 130; e++) {
+            check.operation(0, "1r" + e, "1r0", "1r" + e);
+            check.operation(1, "-5r0", "3r" + (e + 2), "-3r" + (e + 2));
+        }
         check.operation(0, "3602879701896397r-55", "3602879701896397r-54", "1351079888211149r-52");
         check.operation(2, "3r-1", "-5r-2", "-15r-3");
         check.operation(2, "0r0", "-5r0", "0r0");
